@@ -30,23 +30,6 @@ public final class PromisesTest {
         Check.end();
     }
 
-    /** Pairs of a width and a penalty. */
-    private static ParagraphBreaker made(int width, int extra, int... pairs) {
-        ParagraphBreaker x = new ParagraphBreaker(width, extra);
-        for (int p = 0; p + 1 < pairs.length; p += 2) {
-            Check.due("word", p / 2, x.word(pairs[p], pairs[p + 1]));
-        }
-        return x;
-    }
-
-    private static void ends(String what, ParagraphBreaker x, int... want) {
-        Check.due(what + ": lines", want.length, x.lines());
-        for (int k = 0; k < want.length; k++) {
-            Check.due(what + ": endOf(" + k + ")", want[k], x.endOf(k));
-        }
-        Check.due(what + ": endOf after the last line", BAD, x.endOf(want.length));
-    }
-
     // Promise 1
     private static void newObject() {
         ParagraphBreaker x = new ParagraphBreaker(20, 10);
@@ -61,7 +44,7 @@ public final class PromisesTest {
         int[][] cases = {{4, 16}, {5, 16}, {6, 25}, {0, 16}, {-7, 16}, {LEAST, 16},
             {59, 58 * 58}, {60, 59 * 59}, {61, 59 * 59}, {MOST, 59 * 59}};
         for (int[] c : cases) {
-            Check.due("1 width " + c[0], c[1], made(c[0], 0, 1, 0, 1, 0).costBreaking(0));
+            Check.due("1 width " + c[0], c[1], Paragraph.made(c[0], 0, 1, 0, 1, 0).costBreaking(0));
         }
     }
 
@@ -69,7 +52,7 @@ public final class PromisesTest {
     private static void clampedExtra() {
         int[][] cases = {{-1, 0}, {0, 0}, {1, 1}, {LEAST, 0}, {99, 99}, {100, 100}, {101, 100}, {MOST, 100}};
         for (int[] c : cases) {
-            Check.due("1 extra " + c[0], 2 + c[1], made(5, c[0], 5, 1, 5, 1, 5, 1).cost());
+            Check.due("1 extra " + c[0], 2 + c[1], Paragraph.made(5, c[0], 5, 1, 5, 1, 5, 1).cost());
         }
     }
 
@@ -121,7 +104,7 @@ public final class PromisesTest {
 
     // Promise 4
     private static void change() {
-        ParagraphBreaker x = made(20, 0, 3, 1, 4, 2);
+        ParagraphBreaker x = Paragraph.made(20, 0, 3, 1, 4, 2);
         int[][] wrong = {{-1, 5, 0}, {2, 5, 0}, {10, 5, 0}, {LEAST, 5, 0}, {MOST, 5, 0}, {0, 0, 7}, {0, 13, 7},
             {0, 6, -41}, {0, 6, 41}, {1, LEAST, 0}, {1, MOST, 0}, {1, 6, LEAST}, {1, 6, MOST}};
         for (int[] w : wrong) {
@@ -144,7 +127,7 @@ public final class PromisesTest {
 
     // Promise 5
     private static void setWidth() {
-        ParagraphBreaker x = made(20, 0, 1, 0, 1, 0);
+        ParagraphBreaker x = Paragraph.made(20, 0, 1, 0, 1, 0);
         for (int wrong : new int[] {4, 61, 0, -5, LEAST, MOST}) {
             Check.due("5 setWidth(" + wrong + ")", false, x.setWidth(wrong));
             Check.due("5 cost after a wrong width", 19 * 19, x.costBreaking(0));
@@ -173,82 +156,80 @@ public final class PromisesTest {
 
     // Promise 7, and the terms FITS and BADNESS
     private static void costOfOneLine() {
-        Check.due("7 last line with room", 0, made(10, 0, 3, 40).cost());
-        Check.due("7 last line just full", 0, made(10, 0, 4, 40, 4, 40).cost());
-        Check.due("7 last line with its gap made narrower", 3, made(10, 0, 5, 40, 4, 40).costKeeping(0));
-        Check.due("7 last line with two gaps made narrower", 12, made(10, 0, 3, 0, 3, 0, 2, 0).costWith(1));
-        Check.due("7 last line one too long", NONE, made(10, 0, 3, 0, 3, 0, 3, 0).costWith(1));
-        Check.due("7 other line with room", 36, made(10, 0, 4, 0, 9, 0).cost());
-        Check.due("7 other line just full", 0, made(10, 0, 10, 0, 9, 0).cost());
-        Check.due("7 other line with its gap made narrower", 3, made(10, 0, 5, 0, 4, 0, 9, 0).cost());
-        Check.due("7 a word as wide as the line", 0, made(11, 0, 11, 0).cost());
-        Check.due("7 a word wider than the line", NONE, made(11, 0, 12, 0).cost());
+        Check.due("7 last line with room", 0, Paragraph.made(10, 0, 3, 40).cost());
+        Check.due("7 last line just full", 0, Paragraph.made(10, 0, 4, 40, 4, 40).cost());
+        Check.due("7 last line with its gap made narrower", 3, Paragraph.made(10, 0, 5, 40, 4, 40).costKeeping(0));
+        Check.due("7 last line with two gaps made narrower", 12, Paragraph.made(10, 0, 3, 0, 3, 0, 2, 0).costWith(1));
+        Check.due("7 last line one too long", NONE, Paragraph.made(10, 0, 3, 0, 3, 0, 3, 0).costWith(1));
+        Check.due("7 other line with room", 36, Paragraph.made(10, 0, 4, 0, 9, 0).cost());
+        Check.due("7 other line just full", 0, Paragraph.made(10, 0, 10, 0, 9, 0).cost());
+        Check.due("7 other line with its gap made narrower", 3, Paragraph.made(10, 0, 5, 0, 4, 0, 9, 0).cost());
+        Check.due("7 a word as wide as the line", 0, Paragraph.made(11, 0, 11, 0).cost());
+        Check.due("7 a word wider than the line", NONE, Paragraph.made(11, 0, 12, 0).cost());
     }
 
     private static void costOfBreaks() {
-        Check.due("7 penalty of a break", 7, made(10, 0, 10, 7, 9, 9).cost());
-        Check.due("7 penalty below 0", -7, made(10, 0, 10, -7, 9, 9).cost());
-        Check.due("7 least cost there is", -360,
-            made(12, 100, 12, -40, 12, -40, 12, -40, 12, -40, 12, -40, 12, -40, 12, -40, 12, -40, 12, -40, 12, -40)
-                .cost());
-        Check.due("7 a penalty below 0 wins a break", -4, made(10, 0, 4, -40, 4, 0).cost());
-        ends("7 a penalty below 0 wins a break", made(10, 0, 4, -40, 4, 0), 0, 1);
+        Check.due("7 penalty of a break", 7, Paragraph.made(10, 0, 10, 7, 9, 9).cost());
+        Check.due("7 penalty below 0", -7, Paragraph.made(10, 0, 10, -7, 9, 9).cost());
+        Check.due("7 least cost there is", -360, Paragraph.alike(12, 100, 10, 12, -40).cost());
+        Check.due("7 a penalty below 0 wins a break", -4, Paragraph.made(10, 0, 4, -40, 4, 0).cost());
+        Paragraph.ends("7 a penalty below 0 wins a break", Paragraph.made(10, 0, 4, -40, 4, 0), 0, 1);
     }
 
     private static void costOfExtra() {
-        Check.due("7 extra, the last line does not count", 1, made(5, 50, 5, 1, 5, 1).cost());
-        Check.due("7 extra for one pair", 52, made(5, 50, 5, 1, 5, 1, 5, 1).cost());
-        Check.due("7 extra for two pairs", 103, made(5, 50, 5, 1, 5, 1, 5, 1, 5, 1).cost());
-        Check.due("7 no extra over a penalty of 0", 2, made(5, 50, 5, 1, 5, 0, 5, 1, 5, 1).cost());
-        Check.due("7 no extra over a penalty below 0", 1, made(5, 50, 5, 1, 5, -1, 5, 1, 5, 1).cost());
+        Check.due("7 extra, the last line does not count", 1, Paragraph.made(5, 50, 5, 1, 5, 1).cost());
+        Check.due("7 extra for one pair", 52, Paragraph.made(5, 50, 5, 1, 5, 1, 5, 1).cost());
+        Check.due("7 extra for two pairs", 103, Paragraph.made(5, 50, 5, 1, 5, 1, 5, 1, 5, 1).cost());
+        Check.due("7 no extra over a penalty of 0", 2, Paragraph.made(5, 50, 5, 1, 5, 0, 5, 1, 5, 1).cost());
+        Check.due("7 no extra over a penalty below 0", 1, Paragraph.made(5, 50, 5, 1, 5, -1, 5, 1, 5, 1).cost());
         Check.due("7 a word within a line does not count", 2 + 3 + 50,
-            made(10, 50, 10, 1, 5, 0, 4, 1, 10, 0).cost());
+            Paragraph.made(10, 50, 10, 1, 5, 0, 4, 1, 10, 0).cost());
         Check.due("7 no extra for a penalty within a line", 1 + 0,
-            made(10, 50, 10, 1, 4, 1, 4, 0, 10, 0).cost());
+            Paragraph.made(10, 50, 10, 1, 4, 1, 4, 0, 10, 0).cost());
         // 10 | 4 4 | 10 costs 102, and a break between the fours costs 72 but evades the extra.
-        Check.due("7 extra is worth evading", 36 + 36 + 2, made(10, 100, 10, 1, 4, 0, 4, 1, 10, 0).cost());
-        ends("7 extra is worth evading", made(10, 100, 10, 1, 4, 0, 4, 1, 10, 0), 0, 1, 2, 3);
+        Check.due("7 extra is worth evading", 36 + 36 + 2, Paragraph.made(10, 100, 10, 1, 4, 0, 4, 1, 10, 0).cost());
+        Paragraph.ends("7 extra is worth evading", Paragraph.made(10, 100, 10, 1, 4, 0, 4, 1, 10, 0), 0, 1, 2, 3);
     }
 
     /** One line costs 0; two cost 16 - 16. */
     private static void fewestLines() {
-        ParagraphBreaker x = made(10, 0, 6, -16, 2, 0);
+        ParagraphBreaker x = Paragraph.made(10, 0, 6, -16, 2, 0);
         Check.due("8 cost of a tie", 0, x.cost());
         Check.due("8 choices of a tie", 2, x.choices());
-        ends("8 fewest lines", x, 1);
+        Paragraph.ends("8 fewest lines", x, 1);
         Check.due("8 one less and the break wins", true, x.change(0, 6, -17));
-        ends("8 least cost before fewest lines", x, 0, 1);
-        Check.due("8 one line for one word", 1, made(10, 0, 6, 0).lines());
+        Paragraph.ends("8 least cost before fewest lines", x, 0, 1);
+        Check.due("8 one line for one word", 1, Paragraph.made(10, 0, 6, 0).lines());
         Check.due("8 a line for each word", 10,
-            made(12, 0, 12, 0, 12, 0, 12, 0, 12, 0, 12, 0, 12, 0, 12, 0, 12, 0, 12, 0, 12, 0).lines());
+            Paragraph.alike(12, 0, 10, 12, 0).lines());
     }
 
     /** Breaking after word 0 costs 36, and after word 1 it costs 0 + 36. */
     private static void dictionaryOrder() {
-        ParagraphBreaker x = made(10, 0, 4, 0, 4, 36, 4, 0);
+        ParagraphBreaker x = Paragraph.made(10, 0, 4, 0, 4, 36, 4, 0);
         Check.due("10 choices of a tie", 2, x.choices());
-        ends("10 dictionary order", x, 0, 2);
+        Paragraph.ends("10 dictionary order", x, 0, 2);
         Check.due("10 lineOf(1)", 1, x.lineOf(1));
         Check.due("10 length of line 0", 4, x.lengthOf(0));
         Check.due("10 length of line 1", 10, x.lengthOf(1));
         // The same tie after a first line that is full, so that the second number decides.
-        ParagraphBreaker y = made(10, 0, 10, 0, 4, 0, 4, 36, 4, 0);
+        ParagraphBreaker y = Paragraph.made(10, 0, 10, 0, 4, 0, 4, 36, 4, 0);
         Check.due("10 choices of a later tie", 2, y.choices());
-        ends("10 dictionary order of a later tie", y, 0, 1, 3);
+        Paragraph.ends("10 dictionary order of a later tie", y, 0, 1, 3);
         // Two ties, each with its own choice.
-        ParagraphBreaker z = made(10, 0, 4, 0, 4, 0, 4, 0, 10, 0, 4, 0, 4, 36, 4, 0);
+        ParagraphBreaker z = Paragraph.made(10, 0, 4, 0, 4, 0, 4, 0, 10, 0, 4, 0, 4, 36, 4, 0);
         Check.due("10 choices of two ties", 4, z.choices());
-        ends("10 dictionary order of two ties", z, 0, 2, 3, 4, 6);
+        Paragraph.ends("10 dictionary order of two ties", z, 0, 2, 3, 4, 6);
         // The ends 0, 3, 4 cost 144 + 16 + 12, and 1, 2, 4 cost 81 + 1 + 100 - 10: the first number decides,
         // though the second one speaks for the other breaking.
-        ParagraphBreaker nested = made(20, 100, 8, 0, 1, 1, 10, -10, 1, 12, 12, 0);
+        ParagraphBreaker nested = Paragraph.made(20, 100, 8, 0, 1, 1, 10, -10, 1, 12, 12, 0);
         Check.due("10 cost of a nested tie", 172, nested.cost());
         Check.due("10 choices of a nested tie", 2, nested.choices());
-        ends("10 dictionary order of a nested tie", nested, 0, 3, 4);
+        Paragraph.ends("10 dictionary order of a nested tie", nested, 0, 3, 4);
     }
 
     private static void noBreaking() {
-        ParagraphBreaker x = made(11, 10, 3, 0, 12, 0, 3, 0);
+        ParagraphBreaker x = Paragraph.made(11, 10, 3, 0, 12, 0, 3, 0);
         Check.due("7 cost without a breaking", NONE, x.cost());
         Check.due("8 lines without a breaking", 0, x.lines());
         Check.due("15 choices without a breaking", 0, x.choices());
@@ -262,14 +243,14 @@ public final class PromisesTest {
         }
         x.setWidth(12);
         Check.due("7 cost when the line is wider again", 81, x.cost());
-        ends("8 lines when the line is wider again", x, 0, 1, 2);
+        Paragraph.ends("8 lines when the line is wider again", x, 0, 1, 2);
     }
 
     // Promises 9, 10 and 11
     private static void lineOfEndOfLengthOf() {
-        ParagraphBreaker x = made(10, 0, 4, 0, 4, 0, 9, 0, 2, 0, 3, 0, 2, 0, 1, 0);
+        ParagraphBreaker x = Paragraph.made(10, 0, 4, 0, 4, 0, 9, 0, 2, 0, 3, 0, 2, 0, 1, 0);
         // 4 4 | 9 | 2 3 2 | 1, the third line with narrower gaps
-        ends("10", x, 1, 2, 5, 6);
+        Paragraph.ends("10", x, 1, 2, 5, 6);
         int[] line = {0, 0, 1, 2, 2, 2, 3};
         for (int i = 0; i < line.length; i++) {
             Check.due("9 lineOf(" + i + ")", line[i], x.lineOf(i));
@@ -288,7 +269,7 @@ public final class PromisesTest {
 
     // Promise 12
     private static void costWith() {
-        ParagraphBreaker x = made(10, 0, 4, 1, 4, 2, 4, 3);
+        ParagraphBreaker x = Paragraph.made(10, 0, 4, 1, 4, 2, 4, 3);
         Check.due("12 costWith(1)", NONE, x.costWith(1));
         Check.due("12 costWith(2)", 2, x.costWith(2));
         Check.due("12 costWith(3)", 36 + 1 + 36 + 2, x.costWith(3));
@@ -303,7 +284,7 @@ public final class PromisesTest {
 
     // Promises 13 and 14
     private static void costBreakingAndKeeping() {
-        ParagraphBreaker x = made(10, 0, 4, 1, 4, 2, 4, 3);
+        ParagraphBreaker x = Paragraph.made(10, 0, 4, 1, 4, 2, 4, 3);
         Check.due("13 costBreaking(0)", 37, x.costBreaking(0));
         Check.due("13 costBreaking(1)", 2, x.costBreaking(1));
         Check.due("14 costKeeping(0)", 2, x.costKeeping(0));
@@ -312,10 +293,10 @@ public final class PromisesTest {
             Check.due("13 costBreaking(" + wrong + ")", NONE, x.costBreaking(wrong));
             Check.due("14 costKeeping(" + wrong + ")", NONE, x.costKeeping(wrong));
         }
-        Check.due("14 words that cannot stand together", NONE, made(10, 0, 9, 0, 9, 0).costKeeping(0));
-        Check.due("13 words that cannot stand together", 1, made(10, 0, 9, 0, 9, 0).costBreaking(0));
-        Check.due("13 the only word", NONE, made(10, 0, 9, 0).costBreaking(0));
-        Check.due("14 the only word", NONE, made(10, 0, 9, 0).costKeeping(0));
+        Check.due("14 words that cannot stand together", NONE, Paragraph.made(10, 0, 9, 0, 9, 0).costKeeping(0));
+        Check.due("13 words that cannot stand together", 1, Paragraph.made(10, 0, 9, 0, 9, 0).costBreaking(0));
+        Check.due("13 the only word", NONE, Paragraph.made(10, 0, 9, 0).costBreaking(0));
+        Check.due("14 the only word", NONE, Paragraph.made(10, 0, 9, 0).costKeeping(0));
         Check.due("13 without words", NONE, new ParagraphBreaker(10, 0).costBreaking(0));
         Check.due("14 without words", NONE, new ParagraphBreaker(10, 0).costKeeping(0));
         Check.due("13 without words, before the first", NONE, new ParagraphBreaker(10, 0).costBreaking(-1));
@@ -324,13 +305,13 @@ public final class PromisesTest {
 
     // Promise 15; on a line of 5 a word of 1 alone costs 16, two such words 1, and three 12 also as the last line
     private static void choices() {
-        Check.due("15 one word", 1, made(5, 0, 1, 0).choices());
-        Check.due("15 a tie of two", 2, made(5, 0, 1, -16, 1, 0).choices());
-        Check.due("15 no tie", 1, made(5, 0, 1, -15, 1, 0).choices());
-        ParagraphBreaker x = made(5, 0, 1, -4, 1, 11, 1, 0);
+        Check.due("15 one word", 1, Paragraph.made(5, 0, 1, 0).choices());
+        Check.due("15 a tie of two", 2, Paragraph.made(5, 0, 1, -16, 1, 0).choices());
+        Check.due("15 no tie", 1, Paragraph.made(5, 0, 1, -15, 1, 0).choices());
+        ParagraphBreaker x = Paragraph.made(5, 0, 1, -4, 1, 11, 1, 0);
         Check.due("15 ties of breakings with as many and with other numbers of lines", 3, x.choices());
         Check.due("15 their cost", 12, x.cost());
-        ends("15 the best of them", x, 2);
+        Paragraph.ends("15 the best of them", x, 2);
     }
 
     // Promise 16
@@ -362,8 +343,9 @@ public final class PromisesTest {
     /** No call may throw (LANGUAGE.md, rule 7); a throw ends this test with a failure. */
     private static void wildArguments() {
         int[] wild = {LEAST, LEAST + 1, -33, -32, -31, -2, -1, 0, 1, 9, 10, 11, 31, 32, 33, MOST - 1, MOST};
-        ParagraphBreaker x = new ParagraphBreaker(30, 10);
         for (int n = 0; n <= 10; n++) {
+            // An object is promised for 512 calls, so each number of words has its own.
+            ParagraphBreaker x = Paragraph.alike(30, 10, n, 5, 3);
             for (int a : wild) {
                 boolean has = a >= 0 && a < n;
                 Check.due("wild lineOf(" + a + ")", has, x.lineOf(a) != BAD);
@@ -375,7 +357,6 @@ public final class PromisesTest {
                     Check.due("wild costWith(" + a + ")", NONE, x.costWith(a));
                 }
             }
-            x.word(5, 3);
         }
     }
 }
